@@ -69,8 +69,9 @@ public final class NextTest {
     }
 
     /**
-     * One draw from a state put in by hand. No search finds a seed that leads to the rarest of these states,
-     * so this reaches for the private fields; rename them here too.
+     * One draw from a state put in by hand. By chance, the rarest of these states (two given words and a borrow)
+     * comes once in some 2 to the 49th draws, so no seed was searched for; this reaches for the private fields
+     * instead; rename them here too.
      */
     private static void step(int p, int lagged, int own, int borrow, int answer, int borrowAfter)
             throws ReflectiveOperationException {
