@@ -1,27 +1,51 @@
 /** What the tests share: compares answers, prints the wrong ones, and ends with exit code 1 if there was one. */
 final class Check {
-    /** Three times round the words, so that every word, the borrow and the cursor show in the answers. */
+    /** Three times round the words; the borrow and the first 24 draws alone already tell the whole state. */
     static final int FUTURE = 72;
 
-    private static int wrong = 0;
+    private static final int PRINTED_PER_SENTENCE = 10;
+
+    private static int sentences = 0;
+    private static int broken = 0;
     private static int checked = 0;
+    private static int wrong = 0;
+
+    interface Test {
+        void run() throws Exception;
+    }
 
     private Check() {
+    }
+
+    /** Runs the test of one sentence of the document, and names the sentence if the test finds it broken. */
+    static void sentence(String sentence, Test test) {
+        sentences++;
+        int checkedBefore = checked;
+        wrong = 0;
+        try {
+            test.run();
+            holds("the test checked something", checked > checkedBefore);
+        } catch (Throwable thrown) {
+            wrong++;
+            System.out.println("  threw " + thrown);
+        }
+        if (wrong != 0) {
+            broken++;
+            System.out.println("BROKEN (" + wrong + " wrong): " + sentence);
+        }
     }
 
     static void due(String what, long got, long want) {
         checked++;
         if (got != want) {
-            wrong++;
-            System.out.println(what + " answered " + got + ", due is " + want);
+            complain(what + " answered " + got + ", due is " + want);
         }
     }
 
     static void holds(String what, boolean held) {
         checked++;
         if (!held) {
-            wrong++;
-            System.out.println("does not hold: " + what);
+            complain("does not hold: " + what);
         }
     }
 
@@ -48,10 +72,30 @@ final class Check {
         return x;
     }
 
+    /** Draws by next() alone, so that a fault of skip does not show in the tests of the other promises. */
+    static SubBorrow drawn(int s, int draws) {
+        SubBorrow x = seeded(s);
+        draw(x, draws);
+        return x;
+    }
+
+    static void draw(SubBorrow x, int draws) {
+        for (int i = 0; i < draws; i++) {
+            x.next();
+        }
+    }
+
     static void finish() {
-        System.out.println(checked + " checks, " + wrong + " wrong");
-        if (wrong != 0) {
+        System.out.println(sentences + " sentences, " + checked + " checks, " + broken + " sentences broken");
+        if (broken != 0) {
             System.exit(1);
+        }
+    }
+
+    private static void complain(String message) {
+        wrong++;
+        if (wrong <= PRINTED_PER_SENTENCE) {
+            System.out.println("  " + message);
         }
     }
 }

@@ -1,26 +1,148 @@
-import java.lang.reflect.Field;
-
 /** Promise 3: next. */
 public final class NextTest {
-    private static final int TOP = 16777215;
+    private static final int TOP = State.TOP;
+    private static final int GROWTH = 16777216;
 
-    public static void main(String[] args) throws ReflectiveOperationException {
-        ordinaryDraws();
-        longRun();
-        equalWordsFromSeeds();
-        edgesAtEveryCursor();
+    /*
+     * Seeds, found by search, each with the draws to make before the next one is what the table's name says. The row's
+     * place is the cursor at that time: every cursor has a row.
+     */
+    private static final int[][] EQUAL_WORDS_NO_BORROW = {
+        {952078, 48}, {6613841, 49}, {236788, 26}, {10925034, 27}, {35448165, 28}, {10491177, 5}, {9706344, 6},
+        {15987453, 7}, {12629356, 32}, {12354637, 9}, {10475992, 10}, {6071783, 59}, {2401747, 60}, {4050248, 13},
+        {13242856, 14}, {10716196, 63}, {85803, 64}, {36587156, 17}, {30565302, 66}, {9308075, 43}, {2124009, 20},
+        {16776668, 45}, {2373653, 22}, {5217472, 71},
+    };
+    private static final int[][] EQUAL_WORDS_BORROW = {
+        {15084745, 24}, {13709033, 1}, {11100563, 50}, {10925884, 51}, {6010669, 28}, {68350639, 5}, {7720203, 54},
+        {3445999, 55}, {2047611, 32}, {3836002, 33}, {7856994, 10}, {5846599, 11}, {3401920, 60}, {12067837, 61},
+        {4716306, 14}, {15132648, 63}, {33079830, 40}, {1080764, 65}, {18646759, 66}, {12738482, 43}, {5812673, 68},
+        {4057186, 45}, {4473841, 46}, {4813874, 23},
+    };
+    private static final int[][] LAGGED_ONE_MORE_BORROW = {
+        {7655952, 24}, {2658878, 1}, {5007446, 50}, {14499380, 27}, {4872458, 4}, {4732568, 29}, {8084492, 54},
+        {3692762, 31}, {16896423, 32}, {6492658, 57}, {16444668, 58}, {6073688, 11}, {8549301, 12}, {9962633, 37},
+        {9538796, 38}, {39185621, 39}, {3700279, 64}, {4547322, 41}, {818414, 42}, {217291, 19}, {18398640, 44},
+        {33142359, 69}, {3191619, 22}, {4706152, 47},
+    };
+    private static final int[][] LAGGED_ONE_LESS_NO_BORROW = {
+        {6423192, 0}, {6367784, 1}, {4305934, 26}, {1559625, 3}, {6355342, 4}, {30110958, 53}, {1886232, 6},
+        {18555469, 55}, {27650013, 32}, {5337027, 57}, {21951923, 34}, {3117063, 59}, {12264820, 12}, {10516620, 61},
+        {7501635, 14}, {13844437, 15}, {14791663, 40}, {11083205, 41}, {7305257, 18}, {6269652, 67}, {1803509, 20},
+        {286031, 21}, {4747306, 22}, {3970540, 23},
+    };
+
+    public static void main(String[] args) {
+        Check.sentence("`next()` takes one step and answers the word it produces. [...] Word p then becomes d.",
+                NextTest::answersTheWordItProduces);
+        Check.sentence("Thus for p from 0 to 9, j is p + 14 (14 to 23);", () -> laggedWord(0, 9, 14));
+        Check.sentence("for p from 10 to 23, j is p - 10 (0 to 13).", () -> laggedWord(10, 23, -10));
+        Check.sentence("Let d = word j - word p - borrow, where all three are the values held before the call.",
+                NextTest::valuesHeldBeforeTheCall);
+        Check.sentence("If d is negative, d grows by 16777216 and borrow becomes 1.", NextTest::negativeDifference);
+        Check.sentence("Otherwise (d zero or positive), d stays as it is and borrow becomes 0.",
+                NextTest::otherDifference);
+        Check.sentence("The cursor moves on by one, and goes from 23 back to 0.", NextTest::cursorMovesOn);
+        Check.sentence("The answer is d, after any growth, and is always in the range 0 to 16777215.",
+                NextTest::answerInRange);
+        Check.sentence("If word j equals word p and borrow is 0, the answer is 0 and borrow becomes 0.",
+                () -> atEveryCursor(EQUAL_WORDS_NO_BORROW, 0, 0, 0, 0));
+        Check.sentence("If word j equals word p and borrow is 1, the answer is 16777215 and borrow becomes 1.",
+                () -> atEveryCursor(EQUAL_WORDS_BORROW, 0, 1, TOP, 1));
+        Check.sentence("The other 23 words do not change.", NextTest::otherWordsDoNotChange);
+        Check.sentence("When the cursor goes from 23 back to 0, nothing further happens: the words and the borrow carry on,"
+                + " and nothing is seeded again.", NextTest::nothingFurtherAtTheWrap);
         Check.finish();
     }
 
-    private static void ordinaryDraws() {
+    private static void answersTheWordItProduces() {
         SubBorrow x = Check.seeded(7);
         Check.due("seed(7), next() number 1", x.next(), 11770281);
         Check.due("seed(7), next() number 2", x.next(), 9409582);
         Check.due("seed(7), next() number 3", x.next(), 3139026);
         Check.due("seed(7), next() number 4", x.next(), 11336948);
+        for (int draws = 0; draws <= 60; draws++) {
+            SubBorrow stepped = Check.drawn(7, draws);
+            int answer = stepped.next();
+            Check.due("seed(7), " + draws + " draws: word p after next()", new State(stepped).words[draws % 24], answer);
+        }
     }
 
-    private static void longRun() {
+    private static void laggedWord(int from, int to, int lag) {
+        for (int round = 0; round < 4; round++) {
+            for (int p = from; p <= to; p++) {
+                int draws = round * 24 + p;
+                State before = new State(Check.drawn(21, draws));
+                int d = before.words[p + lag] - before.words[p] - before.borrow;
+                Check.due("seed(21), " + draws + " draws: cursor", before.cursor, p);
+                Check.due("seed(21), " + draws + " draws: next()", Check.drawn(21, draws).next(), d & TOP);
+            }
+        }
+    }
+
+    /** Looks at each of the four ways in which the borrow can change or stay, for a borrow taken too late shows there. */
+    private static void valuesHeldBeforeTheCall() {
+        boolean[] seen = new boolean[4];
+        for (int draws = 0; draws <= 100; draws++) {
+            State before = new State(Check.drawn(22, draws));
+            SubBorrow x = Check.drawn(22, draws);
+            Check.due("seed(22), " + draws + " draws: next()", x.next(), difference(before) & TOP);
+            seen[before.borrow * 2 + (x.status() & 1)] = true;
+        }
+        for (int way = 0; way < 4; way++) {
+            Check.holds("borrow " + way / 2 + " before and " + way % 2 + " after was among them", seen[way]);
+        }
+    }
+
+    private static void negativeDifference() {
+        atEveryCursor(LAGGED_ONE_LESS_NO_BORROW, -1, 0, TOP, 1);
+        atEveryCursor(EQUAL_WORDS_BORROW, 0, 1, TOP, 1);
+        int seen = 0;
+        for (int draws = 0; draws <= 200; draws++) {
+            State before = new State(Check.drawn(23, draws));
+            if (difference(before) < 0) {
+                seen++;
+                step(draws, difference(before) + GROWTH, 1);
+            }
+        }
+        Check.holds("some differences were negative", seen > 50);
+    }
+
+    private static void otherDifference() {
+        atEveryCursor(EQUAL_WORDS_NO_BORROW, 0, 0, 0, 0);
+        atEveryCursor(LAGGED_ONE_MORE_BORROW, 1, 1, 0, 0);
+        int seen = 0;
+        for (int draws = 0; draws <= 200; draws++) {
+            State before = new State(Check.drawn(23, draws));
+            if (difference(before) >= 0) {
+                seen++;
+                step(draws, difference(before), 0);
+            }
+        }
+        Check.holds("some differences were not negative", seen > 50);
+    }
+
+    private static void step(int draws, int answer, int borrow) {
+        SubBorrow x = Check.drawn(23, draws);
+        Check.due("seed(23), " + draws + " draws: next()", x.next(), answer);
+        Check.due("seed(23), " + draws + " draws: borrow after next()", x.status() & 1, borrow);
+    }
+
+    private static int difference(State state) {
+        int p = state.cursor;
+        int j = p < 10 ? p + 14 : p - 10;
+        return state.words[j] - state.words[p] - state.borrow;
+    }
+
+    private static void cursorMovesOn() {
+        SubBorrow x = Check.seeded(24);
+        for (int draws = 0; draws <= 240; draws++) {
+            Check.due("seed(24), " + draws + " draws: cursor", x.status() >> 1, draws % 24);
+            x.next();
+        }
+    }
+
+    private static void answerInRange() {
         SubBorrow x = new SubBorrow();
         Model model = new Model();
         for (int i = 1; i <= 100000; i++) {
@@ -31,75 +153,57 @@ public final class NextTest {
         }
     }
 
-    /** Seeds, found by search, in whose early draws word j equals word p. */
-    private static void equalWordsFromSeeds() {
-        equalWords(236788, 27, 0, 0);
-        equalWords(2124009, 21, 0, 0);
-        equalWords(2373653, 23, 0, 0);
-        equalWords(2047611, 33, 1, TOP);
-        equalWords(3836002, 34, 1, TOP);
-    }
-
-    private static void equalWords(int s, int draw, int borrow, int want) {
-        SubBorrow x = Check.seeded(s);
-        x.skip(draw - 1);
-        String what = "seed(" + s + "), skip(" + (draw - 1) + ")";
-        Check.due(what + ", status()", x.status(), (draw - 1) % 24 * 2 + borrow);
-        Check.due(what + ", next()", x.next(), want);
-        Check.due(what + ", next(), status()", x.status(), draw % 24 * 2 + borrow);
-    }
-
-    private static void edgesAtEveryCursor() throws ReflectiveOperationException {
-        for (int p = 0; p < 24; p++) {
-            step(p, 0, 0, 0, 0, 0);
-            step(p, 5, 5, 0, 0, 0);
-            step(p, TOP, TOP, 0, 0, 0);
-            step(p, 0, 0, 1, TOP, 1);
-            step(p, 5, 5, 1, TOP, 1);
-            step(p, TOP, TOP, 1, TOP, 1);
-            step(p, 0, TOP, 1, 0, 1);
-            step(p, 0, TOP, 0, 1, 1);
-            step(p, TOP, 0, 0, TOP, 0);
-            step(p, TOP, 0, 1, TOP - 1, 0);
-            step(p, 6, 5, 1, 0, 0);
-            step(p, 6, 5, 0, 1, 0);
-            step(p, 5, 6, 0, TOP, 1);
-            step(p, 5, 6, 1, TOP - 1, 1);
+    /** One draw for each row: word j is word p and this much more, and the borrow is the one given. */
+    private static void atEveryCursor(int[][] table, int more, int borrow, int answer, int borrowAfter) {
+        Check.due("count of rows", table.length, 24);
+        for (int p = 0; p < table.length; p++) {
+            int s = table[p][0];
+            int draws = table[p][1];
+            State before = new State(Check.drawn(s, draws));
+            String what = "seed(" + s + "), " + draws + " draws";
+            Check.due(what + ": cursor", before.cursor, p);
+            Check.due(what + ": borrow", before.borrow, borrow);
+            Check.due(what + ": word j - word p", difference(before) + borrow, more);
+            SubBorrow x = Check.drawn(s, draws);
+            Check.due(what + ": next()", x.next(), answer);
+            Check.due(what + ": status() after next()", x.status(), (p + 1) % 24 * 2 + borrowAfter);
         }
     }
 
-    /**
-     * One draw from a state put in by hand. By chance, the rarest of these states (two given words and a borrow)
-     * comes once in some 2 to the 49th draws, so no seed was searched for; this reaches for the private fields
-     * instead; rename them here too.
-     */
-    private static void step(int p, int lagged, int own, int borrow, int answer, int borrowAfter)
-            throws ReflectiveOperationException {
+    private static void otherWordsDoNotChange() {
+        for (int draws = 0; draws <= 100; draws++) {
+            State before = new State(Check.drawn(25, draws));
+            State after = new State(Check.drawn(25, draws + 1));
+            for (int k = 0; k < State.WORDS; k++) {
+                if (k != draws % 24) {
+                    Check.due("seed(25), " + draws + " draws: word " + k + " after next()", after.words[k], before.words[k]);
+                }
+            }
+        }
+    }
+
+    /** Both borrows at the wrap, and many wraps. */
+    private static void nothingFurtherAtTheWrap() {
+        boolean[] seen = new boolean[2];
+        for (int draws = 23; draws <= 1000; draws += 24) {
+            State before = new State(Check.drawn(26, draws));
+            SubBorrow x = Check.drawn(26, draws);
+            int answer = x.next();
+            int status = x.status();
+            State after = new State(x);
+            Check.due("seed(26), " + draws + " draws: cursor before the wrap", before.cursor, 23);
+            Check.due("seed(26), " + draws + " draws: status() after the wrap", status, difference(before) < 0 ? 1 : 0);
+            Check.due("seed(26), " + draws + " draws: word 23 after the wrap", after.words[23], answer);
+            for (int k = 0; k < 23; k++) {
+                Check.due("seed(26), " + draws + " draws: word " + k + " after the wrap", after.words[k], before.words[k]);
+            }
+            seen[status & 1] = true;
+        }
+        Check.holds("a wrap without a borrow was among them", seen[0]);
+        Check.holds("a wrap with a borrow was among them", seen[1]);
         SubBorrow x = new SubBorrow();
-        int[] words = (int[]) field("words").get(x);
-        int j = p < 10 ? p + 14 : p - 10;
-        for (int k = 0; k < 24; k++) {
-            words[k] = 1000 + k;
-        }
-        words[j] = lagged;
-        words[p] = own;
-        field("borrow").setInt(x, borrow);
-        field("cursor").setInt(x, p);
-        int[] want = words.clone();
-        want[p] = answer;
-
-        String what = "cursor " + p + ", word j " + lagged + ", word p " + own + ", borrow " + borrow;
-        Check.due(what + ": status()", x.status(), p * 2 + borrow);
-        Check.due(what + ": next()", x.next(), answer);
-        Check.due(what + ": status() after next()", x.status(), (p + 1) % 24 * 2 + borrowAfter);
-        for (int k = 0; k < 24; k++) {
-            Check.due(what + ": word " + k + " after next()", words[k], want[k]);
-        }
-    }
-
-    private static Field field(String name) throws ReflectiveOperationException {
-        Field f = SubBorrow.class.getDeclaredField(name);
-        f.setAccessible(true);
-        return f;
+        int first = x.next();
+        Check.draw(x, 23);
+        Check.holds("draw 25 of a new object is not draw 1 again", x.next() != first);
     }
 }

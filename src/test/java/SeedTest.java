@@ -1,8 +1,6 @@
-import java.math.BigInteger;
-
 /** Promise 2: seed. */
 public final class SeedTest {
-    private static final long MODULUS = 2147483563L;
+    private static final int DEFAULT = 19780503;
 
     /** A seed, then its draws number 1, 2, 10, 11, 24, 25, 48, 49, 1000 and 10000, as C++'s std::ranlux24_base gives them. */
     private static final int[][] KNOWN = {
@@ -26,26 +24,34 @@ public final class SeedTest {
     private static final int[] KNOWN_DRAWS = {1, 2, 10, 11, 24, 25, 48, 49, 1000, 10000};
 
     public static void main(String[] args) {
-        answers();
-        knownDraws();
-        againstTheModel();
-        zeroStandsForTheDefault();
-        startingValueZeroBecomesOne();
-        lastWordZeroBorrows();
-        nothingEarlierSurvives();
+        Check.sentence("`SubBorrow` is a subtract-with-borrow generator on 24-bit words [...] (known as ranlux24_base).",
+                SeedTest::knownDraws);
+        Check.sentence("It accepts every `int`.", SeedTest::acceptsEveryInt);
+        Check.sentence("If `s == 0`, then 19780503 is used in place of `s` and the answer is 1.", SeedTest::zero);
+        Check.sentence("For every other `s`, negative values included, `s` itself is used and the answer is 0.",
+                SeedTest::everyOther);
+        Check.sentence("So `seed(0)` and `seed(19780503)` leave the same state, but the first answers 1 and the second"
+                + " answers 0.", SeedTest::zeroAgainstTheDefault);
+        Check.sentence("Let `e`, a `long`, be `s` (after the replacement above) taken as an unsigned 32-bit value, modulo"
+                + " 2147483563.", SeedTest::startingValueIsTakenModulo);
+        Check.sentence("Taken as unsigned, a negative `s` stands for `s + 4294967296`; for example, -1 stands for"
+                + " 4294967295.", SeedTest::negativeStandsForUnsigned);
+        Check.sentence("If this `e` is 0, then `e = 1`.", SeedTest::startingValueZeroBecomesOne);
+        Check.sentence("This happens exactly for `s == 2147483563` and for `s == -170` (unsigned 4294967126); the answer"
+                + " for these two is still 0.", SeedTest::exactlyTwoSeedsStartFromZero);
+        Check.sentence("`e` becomes `e * 40014` modulo 2147483563. The product is taken as a `long`, and it does not"
+                + " overflow.", SeedTest::productDoesNotOverflow);
+        Check.sentence("Word k becomes the low 24 bits of this new `e`, a value from 0 to 16777215.",
+                SeedTest::wordsAreTheLowBits);
+        Check.sentence("Only the word is cut to 24 bits; `e` itself goes on uncut to the next k.", SeedTest::goesOnUncut);
+        Check.sentence("The first multiplication comes before word 0 is set, so word 0 comes from the starting value already"
+                + " multiplied once.", SeedTest::multipliedBeforeWordZero);
+        Check.sentence("After all the words are set, borrow is 1 if word 23 is 0,", SeedTest::lastWordZeroBorrows);
+        Check.sentence("and otherwise 0. (the borrow)", SeedTest::otherwiseNoBorrow);
+        Check.sentence("The cursor is 0.", SeedTest::cursorIsZero);
+        Check.sentence("Nothing of the earlier state survives: the state after `seed(s)` depends on `s` alone, whatever was"
+                + " called before.", SeedTest::nothingEarlierSurvives);
         Check.finish();
-    }
-
-    private static void answers() {
-        SubBorrow x = new SubBorrow();
-        Check.due("seed(0)", x.seed(0), 1);
-        Check.due("seed(0) again", x.seed(0), 1);
-        Check.due("seed(19780503)", x.seed(19780503), 0);
-        for (int[] row : KNOWN) {
-            Check.due("seed(" + row[0] + ")", x.seed(row[0]), 0);
-        }
-        x.skip(17);
-        Check.due("seed(0) on a used object", x.seed(0), 1);
     }
 
     private static void knownDraws() {
@@ -62,68 +68,250 @@ public final class SeedTest {
         }
     }
 
-    private static void againstTheModel() {
+    private static void acceptsEveryInt() {
         int s = 1;
         for (int i = 0; i < 2000; i++) {
             s = s * 1664525 + 1013904223;
-            compareSeed(s);
+            compareWithTheModel(s);
         }
-        for (int i = -300; i <= 300; i++) {
-            compareSeed(i);
-            compareSeed(Integer.MIN_VALUE + i);
+        for (int bit = 0; bit < 32; bit++) {
+            for (int off = -2; off <= 2; off++) {
+                compareWithTheModel((1 << bit) + off);
+                compareWithTheModel(-(1 << bit) + off);
+            }
         }
     }
 
-    private static void compareSeed(int s) {
+    private static void compareWithTheModel(int s) {
         SubBorrow x = new SubBorrow();
         Model model = new Model();
         Check.due("seed(" + s + ")", x.seed(s), model.seed(s));
         Check.sameFuture("seed(" + s + ")", x, model);
     }
 
-    private static void zeroStandsForTheDefault() {
-        Check.sameFuture("seed(0) against seed(19780503)", Check.seeded(0), Check.seeded(19780503));
+    private static void zero() {
+        SubBorrow x = new SubBorrow();
+        Check.due("new: seed(0)", x.seed(0), 1);
+        Check.due("seed(0) again", x.seed(0), 1);
+        Check.draw(x, 17);
+        Check.due("seed(0) after draws", x.seed(0), 1);
+        x.seed(5);
+        Check.due("seed(0) after seed(5)", x.seed(0), 1);
+        wordsFrom("seed(0)", 0, DEFAULT);
+    }
+
+    private static void everyOther() {
+        SubBorrow x = new SubBorrow();
+        for (int[] row : KNOWN) {
+            Check.due("seed(" + row[0] + ")", x.seed(row[0]), 0);
+        }
+        for (int s = 1; s <= 300; s++) {
+            Check.due("seed(" + s + ")", x.seed(s), 0);
+            Check.due("seed(" + -s + ")", x.seed(-s), 0);
+            Check.due("seed(" + (Integer.MIN_VALUE + s) + ")", x.seed(Integer.MIN_VALUE + s), 0);
+            wordsFrom("seed(" + s + ")", s, s);
+        }
+        Check.due("seed(2147483647)", x.seed(2147483647), 0);
+        Check.due("seed(-2147483648)", x.seed(-2147483648), 0);
+        for (int shift = 8; shift < 32; shift += 8) {
+            // These look like 0 to a seed that is cut.
+            Check.due("seed(" + (1 << shift) + ")", x.seed(1 << shift), 0);
+            wordsFrom("seed(" + (1 << shift) + ")", 1 << shift, (1 << shift & 4294967295L) % SeedOf.MODULUS);
+        }
+    }
+
+    private static void zeroAgainstTheDefault() {
+        SubBorrow zero = Check.drawn(3, 40);
+        SubBorrow standIn = Check.drawn(4, 51);
+        Check.due("seed(0)", zero.seed(0), 1);
+        Check.due("seed(19780503)", standIn.seed(DEFAULT), 0);
+        Check.sameFuture("seed(0) against seed(19780503)", zero, standIn);
+    }
+
+    private static void startingValueIsTakenModulo() {
+        sameStart(2147483562, 2147483562L);
+        sameStart(2147483564, 1);
+        sameStart(2147483565, 2);
+        sameStart(2147483647, 84);
+        for (int s = 1; s <= 1000; s++) {
+            sameStart(SeedOf.aboveTheModulus(s), s);
+        }
+        // Twice the modulus fits below 4294967296 too.
+        sameStart(-171, 2147483562L);
+        sameStart(-169, 1);
+        sameStart(-168, 2);
+    }
+
+    private static void negativeStandsForUnsigned() {
+        sameStart(-1, 4294967295L % SeedOf.MODULUS);
+        Check.sameFuture("seed(-1) against seed(169)", Check.seeded(-1), Check.seeded(169));
+        Check.sameFuture("seed(-2) against seed(168)", Check.seeded(-2), Check.seeded(168));
+        Check.sameFuture("seed(-2147483648) against seed(85)", Check.seeded(-2147483648), Check.seeded(85));
+        Check.sameFuture("seed(-2147483647) against seed(86)", Check.seeded(-2147483647), Check.seeded(86));
+        for (int s = -1; s >= -1000; s--) {
+            if (s != -170) {
+                sameStart(s, (s + 4294967296L) % SeedOf.MODULUS);
+            }
+        }
+    }
+
+    private static void sameStart(int s, long e) {
+        Check.due("seed(" + s + ")", new SubBorrow().seed(s), 0);
+        wordsFrom("seed(" + s + ")", s, e);
     }
 
     private static void startingValueZeroBecomesOne() {
-        Check.due("seed(2147483563)", new SubBorrow().seed(2147483563), 0);
-        Check.due("seed(-170)", new SubBorrow().seed(-170), 0);
+        wordsFrom("seed(2147483563)", 2147483563, 1);
+        wordsFrom("seed(-170)", -170, 1);
         Check.sameFuture("seed(2147483563) against seed(1)", Check.seeded(2147483563), Check.seeded(1));
         Check.sameFuture("seed(-170) against seed(1)", Check.seeded(-170), Check.seeded(1));
     }
 
-    /** Works the seeds back from a last value whose low 24 bits are 0: an ordinary seed almost never gives one. */
+    private static void exactlyTwoSeedsStartFromZero() {
+        SubBorrow x = new SubBorrow();
+        Check.due("seed(2147483563)", x.seed(2147483563), 0);
+        Check.due("seed(-170)", x.seed(-170), 0);
+        for (int off = 1; off <= 100; off++) {
+            notFromOne(2147483563 - off);
+            notFromOne(-170 - off);
+            notFromOne(2147483564 + off);
+            notFromOne(-169 + off);
+        }
+        // The seeds that a modulus of 2 to the 31st or the sign alone would take for 0.
+        notFromOne(-2147483648);
+        notFromOne(-2147483563);
+        notFromOne(170);
+    }
+
+    private static void notFromOne(int s) {
+        int first = new State(Check.seeded(s)).words[0];
+        Check.holds("word 0 after seed(" + s + ") is not 40014", first != 40014);
+    }
+
+    private static void productDoesNotOverflow() {
+        // The greatest starting value, then values whose product goes past 31, 32 and more bits.
+        wordsFrom("seed(2147483562)", 2147483562, 2147483562L);
+        State greatest = new State(Check.seeded(2147483562));
+        Check.due("seed(2147483562): word 0", greatest.words[0], 2147483563 - 40014 & State.TOP);
+        for (int s : new int[] {53668, 53669, 107337, 107338, 1 << 20, 1 << 30, 2147483561}) {
+            wordsFrom("seed(" + s + ")", s, s);
+        }
+        for (int k = 0; k < 23; k++) {
+            int s = SeedOf.valueAtWord(k, 2147483562L);
+            State greatestAtWord = new State(Check.seeded(s));
+            Check.due("seed(" + s + "): word " + (k + 1), greatestAtWord.words[k + 1], 2147483563 - 40014 & State.TOP);
+        }
+    }
+
+    private static void wordsAreTheLowBits() {
+        for (int k = 0; k < State.WORDS; k++) {
+            wordFromValue(k, 1, 1);
+            wordFromValue(k, 16777215, 16777215);
+            wordFromValue(k, 16777216, 0);
+            wordFromValue(k, 16777217, 1);
+            wordFromValue(k, 8388608, 8388608);
+            wordFromValue(k, 127L << 24, 0);
+            wordFromValue(k, (127L << 24) - 1, 16777215);
+            wordFromValue(k, 2147483562L, 16777130);
+        }
+    }
+
+    private static void wordFromValue(int k, long e, int word) {
+        int s = SeedOf.valueAtWord(k, e);
+        Check.due("seed(" + s + "): word " + k, new State(Check.seeded(s)).words[k], word);
+    }
+
+    private static void goesOnUncut() {
+        State one = new State(Check.seeded(1));
+        Check.due("seed(1): word 1", one.words[1], 1601120196 & State.TOP);
+        Check.due("seed(1): word 2", one.words[2], 1601120196L * 40014 % SeedOf.MODULUS & State.TOP);
+        for (int k = 0; k < 23; k++) {
+            // Cut to 24 bits, this value would be 0, and every later word with it.
+            int s = SeedOf.valueAtWord(k, 1L << 24);
+            State uncut = new State(Check.seeded(s));
+            Check.due("seed(" + s + "): word " + k, uncut.words[k], 0);
+            Check.due("seed(" + s + "): word " + (k + 1), uncut.words[k + 1],
+                    (1L << 24) * 40014 % SeedOf.MODULUS & State.TOP);
+        }
+    }
+
+    private static void multipliedBeforeWordZero() {
+        Check.due("seed(1): word 0", new State(Check.seeded(1)).words[0], 40014);
+        Check.due("seed(2): word 0", new State(Check.seeded(2)).words[0], 80028);
+        Check.due("seed(40014): word 0", new State(Check.seeded(40014)).words[0], 1601120196 & State.TOP);
+        Check.due("seed(0): word 0", new State(Check.seeded(0)).words[0],
+                (long) DEFAULT * 40014 % SeedOf.MODULUS & State.TOP);
+    }
+
+    /** All 254 seeds of this kind below twice the modulus: e ends as a multiple of 16777216. */
     private static void lastWordZeroBorrows() {
-        BigInteger modulus = BigInteger.valueOf(MODULUS);
-        BigInteger back = BigInteger.valueOf(40014).modPow(BigInteger.valueOf(24), modulus).modInverse(modulus);
         for (long m = 1; m <= 127; m++) {
-            long start = BigInteger.valueOf(m << 24).multiply(back).mod(modulus).longValueExact();
-            lastWordZero((int) start);
-            lastWordZero((int) (start + MODULUS));
+            int s = SeedOf.valueAtWord(23, m << 24);
+            lastWordZero(s);
+            lastWordZero(SeedOf.aboveTheModulus(s));
         }
         Check.due("seed(1604714404), status()", Check.seeded(1604714404).status(), 1);
         Check.due("seed(-542769329), status()", Check.seeded(-542769329).status(), 1);
-        Check.due("seed(1604714403), status()", Check.seeded(1604714403).status(), 0);
     }
 
     private static void lastWordZero(int s) {
-        Check.due("seed(" + s + "), status()", Check.seeded(s).status(), 1);
-        compareSeed(s);
-        SubBorrow x = Check.seeded(s);
+        SubBorrow x = Check.drawn(6, 7);
+        Check.due("seed(" + s + ")", x.seed(s), 0);
+        Check.due("seed(" + s + "), status()", x.status(), 1);
+        Check.due("seed(" + s + "): word 23", new State(x).words[23], 0);
+        compareWithTheModel(s);
+    }
+
+    private static void otherwiseNoBorrow() {
+        for (long last : new long[] {1, 2, 255, 256, 65536, 8388608, 16777215, 16777217, 25165824, 2147483562L}) {
+            int s = SeedOf.valueAtWord(23, last);
+            Check.due("seed(" + s + "), status()", Check.seeded(s).status(), 0);
+        }
+        for (int k = 0; k < 23; k++) {
+            // Another word is 0, but not the last.
+            int s = SeedOf.valueAtWord(k, 1L << 24);
+            Check.due("seed(" + s + ") with word " + k + " 0, status()", Check.seeded(s).status(), 0);
+        }
+        SubBorrow x = Check.seeded(1604714404);
         x.seed(1);
-        Check.due("seed(1) after seed(" + s + "), status()", x.status(), 0);
+        Check.due("seed(1604714404), seed(1), status()", x.status(), 0);
+    }
+
+    private static void cursorIsZero() {
+        for (int draws = 0; draws <= 48; draws++) {
+            SubBorrow x = Check.drawn(8, draws);
+            x.seed(1);
+            Check.due(draws + " draws, seed(1), status()", x.status(), 0);
+            x.next();
+            Check.due(draws + " draws, seed(1), next(), status() / 2", x.status() / 2, 1);
+            x.seed(0);
+            Check.due("seed(0), status()", x.status(), 0);
+        }
     }
 
     private static void nothingEarlierSurvives() {
-        for (int drawn = 0; drawn <= 60; drawn++) {
-            SubBorrow x = Check.seeded(12345 + drawn);
-            x.skip(drawn);
-            x.seed(-99);
-            Check.due("seed(-99) after " + drawn + " draws, status()", x.status(), 0);
-            Check.sameFuture("seed(-99) after " + drawn + " draws", x, Check.seeded(-99));
+        for (int draws = 0; draws <= 60; draws++) {
+            for (int s : new int[] {-99, 0, 2147483563, -170, 1604714404}) {
+                SubBorrow x = Check.drawn(12345 + draws, draws);
+                x.skip(201);
+                x.seed(s);
+                Check.sameFuture("seed(" + s + ") after " + draws + " draws", x, Check.seeded(s));
+            }
         }
         SubBorrow twice = Check.seeded(4);
         twice.seed(4);
         Check.sameFuture("seed(4) twice", twice, Check.seeded(4));
+        SubBorrow after = Check.seeded(1604714404);
+        after.seed(7);
+        Check.sameFuture("seed(7) after a seed that borrows", after, Check.seeded(7));
+    }
+
+    /** The words after seed(s), from the starting value e by the two steps of the document. */
+    private static void wordsFrom(String what, int s, long e) {
+        State state = new State(Check.seeded(s));
+        for (int k = 0; k < State.WORDS; k++) {
+            e = e * 40014 % SeedOf.MODULUS;
+            Check.due(what + ": word " + k, state.words[k], e & State.TOP);
+        }
     }
 }

@@ -1,33 +1,104 @@
 /** Promise 4: skip. */
 public final class SkipTest {
-    private static final int[] NEGATIVE = {-1, -2, -24, -200, -201, -2147483647, -2147483648};
-    private static final int[] TOO_MANY = {201, 202, 224, 256, 400, 65536, 2147483646, 2147483647};
+    private static final int[] NEGATIVE = {-1, -2, -23, -24, -25, -200, -201, -65536, -2147483647, -2147483648};
+    private static final int[] TOO_MANY = {201, 202, 224, 255, 256, 257, 400, 456, 65536, 2147483646, 2147483647};
 
     public static void main(String[] args) {
-        everyCountThatIsCarriedOut();
-        refusals();
-        zeroChangesNothing();
-        limitHoldsForEachCallAlone();
-        mixedCallsAgainstTheModel();
+        Check.sentence("It accepts every `int`, and the following cases are decided in this order:",
+                SkipTest::acceptsEveryInt);
+        Check.sentence("If `n` is negative (down to and including -2147483648), the answer is -1 and everything is left"
+                + " unchanged.", SkipTest::negative);
+        Check.sentence("If `n` is above 200 (201 up to and including 2147483647), the answer is -2 and everything is left"
+                + " unchanged.", SkipTest::above200);
+        Check.sentence("Otherwise (0 to 200, both included), the state changes exactly as by `n` calls of `next()` with their"
+                + " answers thrown away, and the answer is `n`.", SkipTest::carriedOut);
+        Check.sentence("`skip(0)` answers 0 and changes nothing.", SkipTest::zero);
+        Check.sentence("`skip(200)` is carried out in full and answers 200.", SkipTest::twoHundred);
+        Check.sentence("A refused call leaves every word, the borrow and the cursor as they were; no part of the draws is"
+                + " made.", SkipTest::refusedCallsMakeNoDraw);
+        Check.sentence("Whether a call is refused depends on `n` alone, not on the state.", SkipTest::refusedByTheCountAlone);
+        Check.sentence("The limit of 200 holds for each call by itself; earlier calls of `skip` do not count towards it.",
+                SkipTest::limitHoldsForEachCall);
         Check.finish();
     }
 
-    private static void everyCountThatIsCarriedOut() {
-        for (int n = 0; n <= 200; n++) {
-            for (int before = 0; before <= 25; before += 5) {
-                SubBorrow skipped = Check.seeded(n + 1);
-                SubBorrow drawn = Check.seeded(n + 1);
-                draw(skipped, before);
-                draw(drawn, before + n);
-                String what = before + " draws, skip(" + n + ")";
-                Check.due(what, skipped.skip(n), n);
-                Check.sameFuture(what, skipped, drawn);
+    private static void acceptsEveryInt() {
+        SubBorrow x = new SubBorrow();
+        Model model = new Model();
+        int r = 1;
+        for (int i = 0; i < 20000; i++) {
+            r = r * 1664525 + 1013904223;
+            int n = (r & 1) == 0 ? r : (r >>> 8) % 300 - 50;
+            switch (r >>> 28) {
+                case 0 -> Check.due("mixed seed(" + n + ")", x.seed(n), model.seed(n));
+                case 1, 2 -> Check.due("mixed status()", x.status(), model.status());
+                case 3, 4, 5, 6 -> Check.due("mixed next()", x.next(), model.next());
+                default -> Check.due("mixed skip(" + n + ")", x.skip(n), model.skip(n));
             }
         }
     }
 
-    private static void refusals() {
-        for (int before = 0; before <= 48; before++) {
+    private static void negative() {
+        SubBorrow x = Check.drawn(31, 5);
+        for (int n = -1; n >= -300; n--) {
+            Check.due("skip(" + n + ")", x.skip(n), -1);
+        }
+        for (int n : NEGATIVE) {
+            Check.due("skip(" + n + ")", x.skip(n), -1);
+        }
+        for (int bit = 0; bit < 32; bit++) {
+            Check.due("skip(" + (-1 << bit) + ")", x.skip(-1 << bit), -1);
+        }
+        Check.sameFuture("after skip of negative counts", x, Check.drawn(31, 5));
+    }
+
+    private static void above200() {
+        SubBorrow x = Check.drawn(32, 6);
+        for (int n = 201; n <= 600; n++) {
+            Check.due("skip(" + n + ")", x.skip(n), -2);
+        }
+        for (int n : TOO_MANY) {
+            Check.due("skip(" + n + ")", x.skip(n), -2);
+        }
+        for (int bit = 8; bit < 31; bit++) {
+            Check.due("skip(" + (1 << bit) + ")", x.skip(1 << bit), -2);
+        }
+        Check.sameFuture("after skip of counts above 200", x, Check.drawn(32, 6));
+    }
+
+    private static void carriedOut() {
+        for (int n = 0; n <= 200; n++) {
+            for (int before = 0; before <= 25; before += 5) {
+                SubBorrow skipped = Check.drawn(n + 1, before);
+                String what = "seed(" + (n + 1) + "), " + before + " draws, skip(" + n + ")";
+                Check.due(what, skipped.skip(n), n);
+                Check.sameFuture(what, skipped, Check.drawn(n + 1, before + n));
+            }
+        }
+    }
+
+    private static void zero() {
+        for (int before = 0; before <= 50; before++) {
+            SubBorrow x = Check.drawn(33, before);
+            Check.due(before + " draws, skip(0)", x.skip(0), 0);
+            Check.due(before + " draws, skip(0) again", x.skip(0), 0);
+            Check.sameFuture(before + " draws, skip(0)", x, Check.drawn(33, before));
+        }
+    }
+
+    private static void twoHundred() {
+        for (int before = 0; before <= 50; before++) {
+            SubBorrow x = Check.drawn(34, before);
+            Check.due(before + " draws, skip(200)", x.skip(200), 200);
+            Check.sameFuture(before + " draws, skip(200)", x, Check.drawn(34, before + 200));
+        }
+    }
+
+    /** In states with every cursor and both borrows. */
+    private static void refusedCallsMakeNoDraw() {
+        boolean[] seen = new boolean[48];
+        for (int before = 0; before < 300; before++) {
+            seen[Check.drawn(35, before).status()] = true;
             for (int n : NEGATIVE) {
                 refused(before, n, -1);
             }
@@ -35,60 +106,44 @@ public final class SkipTest {
                 refused(before, n, -2);
             }
         }
+        for (int status = 0; status < 48; status++) {
+            Check.holds("a state with status() " + status + " was among them", seen[status]);
+        }
     }
 
     private static void refused(int before, int n, int code) {
-        SubBorrow x = new SubBorrow();
-        SubBorrow untouched = new SubBorrow();
-        draw(x, before);
-        draw(untouched, before);
+        SubBorrow x = Check.drawn(35, before);
         String what = before + " draws, skip(" + n + ")";
         Check.due(what, x.skip(n), code);
         Check.due(what + " again", x.skip(n), code);
-        Check.sameFuture(what, x, untouched);
+        Check.sameFuture(what, x, Check.drawn(35, before));
     }
 
-    private static void zeroChangesNothing() {
-        SubBorrow x = Check.seeded(31);
-        SubBorrow untouched = Check.seeded(31);
-        for (int i = 0; i < 50; i++) {
-            Check.due("skip(0) after " + i + " draws", x.skip(0), 0);
-            Check.due("next() after skip(0)", x.next(), untouched.next());
-            Check.due("status() after skip(0)", x.status(), untouched.status());
-        }
-    }
-
-    private static void limitHoldsForEachCallAlone() {
-        SubBorrow x = new SubBorrow();
-        SubBorrow drawn = new SubBorrow();
-        for (int i = 0; i < 100; i++) {
-            Check.due("skip(200) number " + (i + 1), x.skip(200), 200);
-            Check.due("skip(201) after it", x.skip(201), -2);
-            Check.due("skip(-1) after it", x.skip(-1), -1);
-        }
-        draw(drawn, 20000);
-        Check.sameFuture("skip(200) a hundred times", x, drawn);
-    }
-
-    private static void mixedCallsAgainstTheModel() {
-        SubBorrow x = new SubBorrow();
-        Model model = new Model();
-        int r = 1;
-        for (int i = 0; i < 20000; i++) {
-            r = r * 1664525 + 1013904223;
-            int argument = (r >>> 8) % 300 - 50;
-            switch (r >>> 28) {
-                case 0 -> Check.due("mixed seed(" + argument + ")", x.seed(argument), model.seed(argument));
-                case 1, 2, 3, 4, 5 -> Check.due("mixed skip(" + argument + ")", x.skip(argument), model.skip(argument));
-                case 6, 7 -> Check.due("mixed status()", x.status(), model.status());
-                default -> Check.due("mixed next()", x.next(), model.next());
-            }
-        }
-    }
-
-    private static void draw(SubBorrow x, int count) {
-        for (int i = 0; i < count; i++) {
+    private static void refusedByTheCountAlone() {
+        SubBorrow x = Check.seeded(1604714404);
+        for (int i = 0; i < 500; i++) {
+            String what = "status() " + x.status() + " after " + i + " rounds: ";
+            Check.due(what + "skip(-1)", x.skip(-1), -1);
+            Check.due(what + "skip(201)", x.skip(201), -2);
+            Check.due(what + "skip(0)", x.skip(0), 0);
+            Check.due(what + "skip(1)", x.skip(1), 1);
+            Check.due(what + "skip(200)", x.skip(200), 200);
             x.next();
         }
+    }
+
+    private static void limitHoldsForEachCall() {
+        SubBorrow x = new SubBorrow();
+        for (int i = 1; i <= 100; i++) {
+            Check.due("skip(200) number " + i, x.skip(200), 200);
+        }
+        Check.sameFuture("skip(200) a hundred times", x, Check.drawn(0, 20000));
+        SubBorrow y = new SubBorrow();
+        for (int n = 0; n <= 200; n++) {
+            Check.due("skip(" + n + ") after all the smaller counts", y.skip(n), n);
+            Check.due("skip(201) between them", y.skip(201), -2);
+            Check.due("skip(-1) between them", y.skip(-1), -1);
+        }
+        Check.sameFuture("skip of 0 to 200 one after another", y, Check.drawn(0, 20100));
     }
 }

@@ -1,34 +1,28 @@
 /** Promise 5: status. */
 public final class StatusTest {
     public static void main(String[] args) {
-        justAfterTheStart();
-        followsTheCursorAndTheBorrow();
-        everyAnswerInRangeIsReached();
-        changesNothing();
+        Check.sentence("`status()` answers cursor * 2 + borrow.", StatusTest::cursorAndBorrow);
+        Check.sentence("The cursor is 0 to 23 and the borrow is 0 or 1, so the answer is always in the range 0 to 47.",
+                StatusTest::everyAnswerInRangeIsReached);
+        Check.sentence("Just after construction or after any call of `seed`, the cursor is 0, so the answer is the borrow: 1"
+                + " if word 23 is 0, and otherwise 0.", StatusTest::justAfterTheStart);
+        Check.sentence("It changes nothing: the words, the borrow and the cursor stay as they were, and calling it any number"
+                + " of times has no influence on later answers.", StatusTest::changesNothing);
         Check.finish();
     }
 
-    private static void justAfterTheStart() {
-        Check.due("new: status()", new SubBorrow().status(), 0);
-        Check.due("seed(1): status()", Check.seeded(1).status(), 0);
-        Check.due("seed(-1): status()", Check.seeded(-1).status(), 0);
-        // Word 23 is 0 for these two.
-        Check.due("seed(1604714404): status()", Check.seeded(1604714404).status(), 1);
-        Check.due("seed(-23593243): status()", Check.seeded(-23593243).status(), 1);
-    }
-
-    private static void followsTheCursorAndTheBorrow() {
+    private static void cursorAndBorrow() {
         SubBorrow x = Check.seeded(2);
-        x.skip(5);
-        Check.due("seed(2), skip(5): status()", x.status(), 10);
-        x.next();
-        Check.due("seed(2), skip(5), next(): status()", x.status(), 13);
-        x.skip(15);
-        Check.due("seed(2), 21 draws: status()", x.status(), 42);
-        x.skip(2);
-        Check.due("seed(2), 23 draws: status() / 2", x.status() / 2, 23);
-        x.next();
-        Check.due("seed(2), 24 draws: status() / 2", x.status() / 2, 0);
+        Model model = new Model();
+        model.seed(2);
+        for (int draws = 0; draws <= 500; draws++) {
+            Check.due("seed(2), " + draws + " draws: status()", x.status(), model.status());
+            x.next();
+            model.next();
+        }
+        Check.due("seed(2), 5 draws: status()", Check.drawn(2, 5).status(), 10);
+        Check.due("seed(2), 6 draws: status()", Check.drawn(2, 6).status(), 13);
+        Check.due("seed(2), 21 draws: status()", Check.drawn(2, 21).status(), 42);
     }
 
     private static void everyAnswerInRangeIsReached() {
@@ -48,12 +42,38 @@ public final class StatusTest {
         }
     }
 
+    private static void justAfterTheStart() {
+        Check.due("new: status()", new SubBorrow().status(), 0);
+        for (int draws = 0; draws <= 48; draws++) {
+            SubBorrow x = Check.drawn(41, draws);
+            afterSeed(x, 0, 0);
+            afterSeed(x, 1, 0);
+            afterSeed(x, -1, 0);
+            // Word 23 is 0 for these four, and for no other here.
+            afterSeed(x, 1604714404, 1);
+            afterSeed(x, -542769329, 1);
+            afterSeed(x, -23593243, 1);
+            afterSeed(x, SeedOf.valueAtWord(23, 127L << 24), 1);
+            afterSeed(x, SeedOf.valueAtWord(23, 1), 0);
+            afterSeed(x, SeedOf.valueAtWord(23, 16777215), 0);
+            afterSeed(x, SeedOf.valueAtWord(22, 16777216), 0);
+            afterSeed(x, SeedOf.valueAtWord(0, 16777216), 0);
+        }
+    }
+
+    /** Draws first, so that the cursor has a way to come back. */
+    private static void afterSeed(SubBorrow x, int s, int status) {
+        x.next();
+        x.seed(s);
+        Check.due("seed(" + s + "), status()", x.status(), status);
+    }
+
     private static void changesNothing() {
         SubBorrow asked = Check.seeded(11);
         SubBorrow unasked = Check.seeded(11);
         for (int i = 0; i < 200; i++) {
             int first = asked.status();
-            for (int k = 0; k < 5; k++) {
+            for (int k = 0; k < 50; k++) {
                 Check.due("status() again after " + i + " draws", asked.status(), first);
             }
             Check.due("next() after status(), draw " + (i + 1), asked.next(), unasked.next());
