@@ -3,7 +3,8 @@ final class Check {
     /** Three times round the words; the borrow and the first 24 draws alone already tell the whole state. */
     static final int FUTURE = 72;
 
-    private static final int PRINTED_PER_SENTENCE = 10;
+    /** Enough to see what is wrong; a fault that makes calls slow could otherwise hold a test up for hours. */
+    private static final int WRONG_PER_SENTENCE = 5;
 
     private static int sentences = 0;
     private static int broken = 0;
@@ -12,6 +13,10 @@ final class Check {
 
     interface Test {
         void run() throws Exception;
+    }
+
+    private static final class Enough extends RuntimeException {
+        private static final long serialVersionUID = 1L;
     }
 
     private Check() {
@@ -25,13 +30,15 @@ final class Check {
         try {
             test.run();
             holds("the test checked something", checked > checkedBefore);
+        } catch (Enough enough) {
+            System.out.println("  and so on");
         } catch (Throwable thrown) {
             wrong++;
             System.out.println("  threw " + thrown);
         }
         if (wrong != 0) {
             broken++;
-            System.out.println("BROKEN (" + wrong + " wrong): " + sentence);
+            System.out.println("BROKEN: " + sentence);
         }
     }
 
@@ -94,8 +101,9 @@ final class Check {
 
     private static void complain(String message) {
         wrong++;
-        if (wrong <= PRINTED_PER_SENTENCE) {
-            System.out.println("  " + message);
+        System.out.println("  " + message);
+        if (wrong == WRONG_PER_SENTENCE) {
+            throw new Enough();
         }
     }
 }

@@ -75,16 +75,14 @@ public final class FaceTest {
         for (int draws = 0; draws < 600; draws++) {
             seen[x.status()] = true;
             for (int n : ARGUMENTS) {
-                int answer = x.skip(n);
-                Check.holds("skip(" + n + ") answers -2, -1 or n", answer == -2 || answer == -1 || answer == n);
+                Check.due("skip(" + n + ")", x.skip(n), n < 0 ? -1 : n > 200 ? -2 : n);
             }
             x.next();
         }
         for (int s : ARGUMENTS) {
             for (int n : ARGUMENTS) {
-                int answer = x.seed(s);
-                Check.holds("seed(" + s + ") answers 0 or 1", answer == 0 || answer == 1);
-                x.skip(n);
+                Check.due("seed(" + s + ")", x.seed(s), s == 0 ? 1 : 0);
+                Check.due("skip(" + n + ")", x.skip(n), n < 0 ? -1 : n > 200 ? -2 : n);
                 x.next();
                 x.status();
             }
@@ -107,21 +105,22 @@ public final class FaceTest {
         }
     }
 
-    /** The same state, come to by other calls. */
+    /** The same state, come to after more and more other calls. */
     private static void answersDependOnTheStateAlone() {
-        SubBorrow longWay = new SubBorrow();
-        for (int n : ARGUMENTS) {
-            longWay.skip(n);
-            longWay.seed(n);
-            longWay.status();
-            longWay.next();
+        SubBorrow x = new SubBorrow();
+        for (int round = 0; round < 30; round++) {
+            for (int n : ARGUMENTS) {
+                x.seed(-1);
+                x.skip(30);
+                Model model = new Model();
+                model.seed(-1);
+                model.skip(30);
+                Check.sameFuture("round " + round + " before skip(" + n + ")", x, model);
+                x.skip(n);
+                x.seed(n);
+                x.status();
+                x.next();
+            }
         }
-        longWay.seed(-1);
-        longWay.skip(201);
-        longWay.skip(30);
-        longWay.status();
-        longWay.skip(-7);
-        longWay.next();
-        Check.sameFuture("a long way against a short one", longWay, Check.drawn(-1, 31));
     }
 }

@@ -69,13 +69,14 @@ public final class NextTest {
     }
 
     private static void laggedWord(int from, int to, int lag) {
-        for (int round = 0; round < 4; round++) {
-            for (int p = from; p <= to; p++) {
-                int draws = round * 24 + p;
-                State before = new State(Check.drawn(21, draws));
-                int d = before.words[p + lag] - before.words[p] - before.borrow;
-                Check.due("seed(21), " + draws + " draws: cursor", before.cursor, p);
-                Check.due("seed(21), " + draws + " draws: next()", Check.drawn(21, draws).next(), d & TOP);
+        Walk walk = new Walk(21);
+        for (int draws = 0; draws < 240; draws++) {
+            int p = walk.cursor();
+            if (p < from || p > to) {
+                walk.next();
+            } else {
+                int due = walk.difference(p + lag) & TOP;
+                Check.due("seed(21) " + walk + ": next()", walk.next(), due);
             }
         }
     }
@@ -83,11 +84,12 @@ public final class NextTest {
     /** Looks at each of the four ways in which the borrow can change or stay, for a borrow taken too late shows there. */
     private static void valuesHeldBeforeTheCall() {
         boolean[] seen = new boolean[4];
-        for (int draws = 0; draws <= 100; draws++) {
-            State before = new State(Check.drawn(22, draws));
-            SubBorrow x = Check.drawn(22, draws);
-            Check.due("seed(22), " + draws + " draws: next()", x.next(), difference(before) & TOP);
-            seen[before.borrow * 2 + (x.status() & 1)] = true;
+        Walk walk = new Walk(22);
+        for (int draws = 0; draws < 240; draws++) {
+            int before = walk.borrow();
+            int due = walk.difference() & TOP;
+            Check.due("seed(22) " + walk + ": next()", walk.next(), due);
+            seen[before * 2 + walk.borrow()] = true;
         }
         for (int way = 0; way < 4; way++) {
             Check.holds("borrow " + way / 2 + " before and " + way % 2 + " after was among them", seen[way]);
@@ -98,11 +100,14 @@ public final class NextTest {
         atEveryCursor(LAGGED_ONE_LESS_NO_BORROW, -1, 0, TOP, 1);
         atEveryCursor(EQUAL_WORDS_BORROW, 0, 1, TOP, 1);
         int seen = 0;
-        for (int draws = 0; draws <= 200; draws++) {
-            State before = new State(Check.drawn(23, draws));
-            if (difference(before) < 0) {
+        Walk walk = new Walk(23);
+        for (int draws = 0; draws < 240; draws++) {
+            int d = walk.difference();
+            int answer = walk.next();
+            if (d < 0) {
                 seen++;
-                step(draws, difference(before) + GROWTH, 1);
+                Check.due("seed(23) " + walk + ": the last next()", answer, d + GROWTH);
+                Check.due("seed(23) " + walk + ": borrow", walk.borrow(), 1);
             }
         }
         Check.holds("some differences were negative", seen > 50);
@@ -112,26 +117,17 @@ public final class NextTest {
         atEveryCursor(EQUAL_WORDS_NO_BORROW, 0, 0, 0, 0);
         atEveryCursor(LAGGED_ONE_MORE_BORROW, 1, 1, 0, 0);
         int seen = 0;
-        for (int draws = 0; draws <= 200; draws++) {
-            State before = new State(Check.drawn(23, draws));
-            if (difference(before) >= 0) {
+        Walk walk = new Walk(23);
+        for (int draws = 0; draws < 240; draws++) {
+            int d = walk.difference();
+            int answer = walk.next();
+            if (d >= 0) {
                 seen++;
-                step(draws, difference(before), 0);
+                Check.due("seed(23) " + walk + ": the last next()", answer, d);
+                Check.due("seed(23) " + walk + ": borrow", walk.borrow(), 0);
             }
         }
         Check.holds("some differences were not negative", seen > 50);
-    }
-
-    private static void step(int draws, int answer, int borrow) {
-        SubBorrow x = Check.drawn(23, draws);
-        Check.due("seed(23), " + draws + " draws: next()", x.next(), answer);
-        Check.due("seed(23), " + draws + " draws: borrow after next()", x.status() & 1, borrow);
-    }
-
-    private static int difference(State state) {
-        int p = state.cursor;
-        int j = p < 10 ? p + 14 : p - 10;
-        return state.words[j] - state.words[p] - state.borrow;
     }
 
     private static void cursorMovesOn() {
@@ -157,28 +153,22 @@ public final class NextTest {
     private static void atEveryCursor(int[][] table, int more, int borrow, int answer, int borrowAfter) {
         Check.due("count of rows", table.length, 24);
         for (int p = 0; p < table.length; p++) {
-            int s = table[p][0];
-            int draws = table[p][1];
-            State before = new State(Check.drawn(s, draws));
-            String what = "seed(" + s + "), " + draws + " draws";
-            Check.due(what + ": cursor", before.cursor, p);
-            Check.due(what + ": borrow", before.borrow, borrow);
-            Check.due(what + ": word j - word p", difference(before) + borrow, more);
-            SubBorrow x = Check.drawn(s, draws);
-            Check.due(what + ": next()", x.next(), answer);
-            Check.due(what + ": status() after next()", x.status(), (p + 1) % 24 * 2 + borrowAfter);
+            String what = "seed(" + table[p][0] + "), " + table[p][1] + " draws";
+            Walk walk = new Walk(table[p][0], table[p][1]);
+            Check.due(what + ": cursor", walk.cursor(), p);
+            Check.due(what + ": borrow", walk.borrow(), borrow);
+            Check.due(what + ": word j - word p", walk.difference() + borrow, more);
+            Check.due(what + ": next()", walk.next(), answer);
+            Check.due(what + ": status() after next()", walk.object.status(), (p + 1) % 24 * 2 + borrowAfter);
         }
     }
 
     private static void otherWordsDoNotChange() {
         for (int draws = 0; draws <= 100; draws++) {
-            State before = new State(Check.drawn(25, draws));
-            State after = new State(Check.drawn(25, draws + 1));
-            for (int k = 0; k < State.WORDS; k++) {
-                if (k != draws % 24) {
-                    Check.due("seed(25), " + draws + " draws: word " + k + " after next()", after.words[k], before.words[k]);
-                }
-            }
+            Walk walk = new Walk(25, draws);
+            int p = walk.cursor();
+            walk.next();
+            wordsAsDue("seed(25) " + walk, walk, p);
         }
     }
 
@@ -186,24 +176,25 @@ public final class NextTest {
     private static void nothingFurtherAtTheWrap() {
         boolean[] seen = new boolean[2];
         for (int draws = 23; draws <= 1000; draws += 24) {
-            State before = new State(Check.drawn(26, draws));
-            SubBorrow x = Check.drawn(26, draws);
-            int answer = x.next();
-            int status = x.status();
-            State after = new State(x);
-            Check.due("seed(26), " + draws + " draws: cursor before the wrap", before.cursor, 23);
-            Check.due("seed(26), " + draws + " draws: status() after the wrap", status, difference(before) < 0 ? 1 : 0);
-            Check.due("seed(26), " + draws + " draws: word 23 after the wrap", after.words[23], answer);
-            for (int k = 0; k < 23; k++) {
-                Check.due("seed(26), " + draws + " draws: word " + k + " after the wrap", after.words[k], before.words[k]);
-            }
-            seen[status & 1] = true;
+            Walk walk = new Walk(26, draws);
+            int d = walk.difference();
+            walk.next();
+            int borrow = d < 0 ? 1 : 0;
+            Check.due("seed(26) " + walk + ": status()", walk.object.status(), borrow);
+            seen[borrow] = true;
+            wordsAsDue("seed(26) " + walk, walk, -1);
         }
         Check.holds("a wrap without a borrow was among them", seen[0]);
         Check.holds("a wrap with a borrow was among them", seen[1]);
-        SubBorrow x = new SubBorrow();
-        int first = x.next();
-        Check.draw(x, 23);
-        Check.holds("draw 25 of a new object is not draw 1 again", x.next() != first);
+    }
+
+    /** All the words but one. Uses the walk up. */
+    private static void wordsAsDue(String what, Walk walk, int but) {
+        State state = new State(walk.object);
+        for (int k = 0; k < State.WORDS; k++) {
+            if (k != but) {
+                Check.due(what + ": word " + k, state.words[k], walk.words[k]);
+            }
+        }
     }
 }

@@ -219,6 +219,8 @@ public final class SeedTest {
     private static void wordFromValue(int k, long e, int word) {
         int s = SeedOf.valueAtWord(k, e);
         Check.due("seed(" + s + "): word " + k, new State(Check.seeded(s)).words[k], word);
+        // A word above 24 bits shows in the borrow and in the answers alone, not in the bits that State works out.
+        compareWithTheModel(s);
     }
 
     private static void goesOnUncut() {

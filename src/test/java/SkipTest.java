@@ -81,9 +81,13 @@ public final class SkipTest {
         for (int before = 0; before <= 50; before++) {
             SubBorrow x = Check.drawn(33, before);
             Check.due(before + " draws, skip(0)", x.skip(0), 0);
-            Check.due(before + " draws, skip(0) again", x.skip(0), 0);
             Check.sameFuture(before + " draws, skip(0)", x, Check.drawn(33, before));
         }
+        SubBorrow again = Check.drawn(33, 9);
+        for (int i = 0; i < 1000; i++) {
+            Check.due("skip(0) number " + (i + 1), again.skip(0), 0);
+        }
+        Check.sameFuture("skip(0) a thousand times", again, Check.drawn(33, 9));
     }
 
     private static void twoHundred() {
@@ -106,29 +110,32 @@ public final class SkipTest {
                 refused(before, n, -2);
             }
         }
-        for (int status = 0; status < 48; status++) {
-            Check.holds("a state with status() " + status + " was among them", seen[status]);
-        }
+        everyStatusSeen(seen);
     }
 
     private static void refused(int before, int n, int code) {
         SubBorrow x = Check.drawn(35, before);
         String what = before + " draws, skip(" + n + ")";
         Check.due(what, x.skip(n), code);
-        Check.due(what + " again", x.skip(n), code);
         Check.sameFuture(what, x, Check.drawn(35, before));
     }
 
+    /** In states with every cursor and both borrows, the state that a seed with a borrow leaves among them. */
     private static void refusedByTheCountAlone() {
-        SubBorrow x = Check.seeded(1604714404);
-        for (int i = 0; i < 500; i++) {
-            String what = "status() " + x.status() + " after " + i + " rounds: ";
-            Check.due(what + "skip(-1)", x.skip(-1), -1);
-            Check.due(what + "skip(201)", x.skip(201), -2);
-            Check.due(what + "skip(0)", x.skip(0), 0);
-            Check.due(what + "skip(1)", x.skip(1), 1);
-            Check.due(what + "skip(200)", x.skip(200), 200);
-            x.next();
+        boolean[] seen = new boolean[48];
+        for (int before = 0; before < 300; before++) {
+            seen[Check.drawn(1604714404, before).status()] = true;
+            for (int n : new int[] {-1, 0, 1, 23, 24, 199, 200, 201}) {
+                int due = n < 0 ? -1 : n > 200 ? -2 : n;
+                Check.due(before + " draws, skip(" + n + ")", Check.drawn(1604714404, before).skip(n), due);
+            }
+        }
+        everyStatusSeen(seen);
+    }
+
+    private static void everyStatusSeen(boolean[] seen) {
+        for (int status = 0; status < 48; status++) {
+            Check.holds("a state with status() " + status + " was among them", seen[status]);
         }
     }
 

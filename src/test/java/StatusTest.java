@@ -68,16 +68,22 @@ public final class StatusTest {
         Check.due("seed(" + s + "), status()", x.status(), status);
     }
 
+    /** Draws without asking between, so that what an odd count of calls does is not undone by one more. */
     private static void changesNothing() {
-        SubBorrow asked = Check.seeded(11);
-        SubBorrow unasked = Check.seeded(11);
-        for (int i = 0; i < 200; i++) {
-            int first = asked.status();
-            for (int k = 0; k < 50; k++) {
-                Check.due("status() again after " + i + " draws", asked.status(), first);
+        for (int times : new int[] {1, 2, 3, 10000}) {
+            for (int before = 0; before <= 48; before++) {
+                SubBorrow asked = Check.drawn(11, before);
+                SubBorrow unasked = Check.drawn(11, before);
+                int first = asked.status();
+                for (int i = 2; i <= times; i++) {
+                    Check.due(before + " draws, status() number " + i, asked.status(), first);
+                }
+                for (int i = 1; i <= Check.FUTURE; i++) {
+                    String what = before + " draws, status() " + times + " times, next() number " + i;
+                    Check.due(what, asked.next(), unasked.next());
+                }
+                Check.due(before + " draws, then " + Check.FUTURE + ": status()", asked.status(), unasked.status());
             }
-            Check.due("next() after status(), draw " + (i + 1), asked.next(), unasked.next());
         }
-        Check.sameFuture("after many calls of status()", asked, unasked);
     }
 }
