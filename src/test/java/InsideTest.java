@@ -1,15 +1,16 @@
 import java.lang.reflect.Field;
 
 /**
- * Promise 3 from states too rare to meet by calls: two given words and a borrow come together by chance once in some 2 to
- * the 49th draws. This test sets the private fields words, borrow and cursor; if they are renamed, rename them here too.
+ * Promise 3 at every cursor from states that calls meet too rarely: two given words and a borrow come together by chance
+ * once in some 2 to the 49th draws. This test sets the private fields words, borrow and cursor; if they are renamed, rename
+ * them here too.
  */
 public final class InsideTest {
     private static final int TOP = State.TOP;
 
     public static void main(String[] args) {
         Check.sentence("If word j is 0, word p is 16777215 and borrow is 1, then d is first -16777216; the answer is 0 and"
-                + " borrow becomes 1.", () -> atEveryCursor(0, TOP, 1, 0, 1));
+                + " borrow becomes 1. (at every cursor)", () -> atEveryCursor(0, TOP, 1, 0, 1));
         Check.sentence("If word j equals word p and borrow is 0, the answer is 0 and borrow becomes 0. (least, greatest and"
                 + " middle words)", InsideTest::equalWordsNoBorrow);
         Check.sentence("If word j equals word p and borrow is 1, the answer is 16777215 and borrow becomes 1. (least,"

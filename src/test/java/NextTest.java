@@ -49,6 +49,8 @@ public final class NextTest {
                 () -> atEveryCursor(EQUAL_WORDS_NO_BORROW, 0, 0, 0, 0));
         Check.sentence("If word j equals word p and borrow is 1, the answer is 16777215 and borrow becomes 1.",
                 () -> atEveryCursor(EQUAL_WORDS_BORROW, 0, 1, TOP, 1));
+        Check.sentence("If word j is 0, word p is 16777215 and borrow is 1, then d is first -16777216; the answer is 0 and"
+                + " borrow becomes 1.", NextTest::lowestDifference);
         Check.sentence("The other 23 words do not change.", NextTest::otherWordsDoNotChange);
         Check.sentence("When the cursor goes from 23 back to 0, nothing further happens: the words and the borrow carry on,"
                 + " and nothing is seeded again.", NextTest::nothingFurtherAtTheWrap);
@@ -161,6 +163,17 @@ public final class NextTest {
             Check.due(what + ": next()", walk.next(), answer);
             Check.due(what + ": status() after next()", walk.object.status(), (p + 1) % 24 * 2 + borrowAfter);
         }
+    }
+
+    /** By chance this comes once in some 2 to the 49th draws; a search over many seeds found this one. */
+    private static void lowestDifference() {
+        Walk walk = new Walk(1291640822, 134989);
+        Check.due("seed(1291640822), 134989 draws: status()", walk.object.status(), 13 * 2 + 1);
+        Check.due("seed(1291640822), 134989 draws: word j", walk.words[3], 0);
+        Check.due("seed(1291640822), 134989 draws: word p", walk.words[13], TOP);
+        Check.due("seed(1291640822), 134989 draws: next()", walk.next(), 0);
+        Check.due("seed(1291640822), 134990 draws: status()", walk.object.status(), 14 * 2 + 1);
+        wordsAsDue("seed(1291640822), 134990 draws", walk, -1);
     }
 
     private static void otherWordsDoNotChange() {
